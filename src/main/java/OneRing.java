@@ -739,7 +739,7 @@ public final class OneRing {
         }
     }
 
-    /** All rows that hold from a stand on, the least ones as numbers of each length first. */
+    /** Goes through all rows that hold; of one length the least as a number comes first, so the first found is it. */
     private static final class Search {
         final Stand start = new Stand();
         /** By how many weddings are done: the churches (bits) in which the ring may lie then. */

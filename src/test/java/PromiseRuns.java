@@ -508,7 +508,11 @@ public final class PromiseRuns {
         due("21: it lies elsewhere now", x.rows(0, 2), NONE);
         x.carry(0);
         due("21: from how it stands when asked", x.rows(0, 0), 1);
+        due("21: twice the same", x.see(0, 0), 2);
+        due("21: twice the same", x.rows(0, 0), 1);
         x.see(0, 1);
+        due("21: in two churches at once", x.rows(0, 0), 0);
+        x.see(0, 0);
         due("21: in two churches at once", x.rows(0, 0), 0);
         due("21: rows(7, 0)", x.rows(7, 0), OUTSIDE);
         due("21: rows(0, 3)", x.rows(0, 3), OUTSIDE);
@@ -552,19 +556,25 @@ public final class PromiseRuns {
     }
 
     private static void rests() {
-        // none asks: 4 and 3; the second one alone: 3 less for the first, 4 less 1 for the second one
+        // 4 for the next one, 3 for the other one: it may ask, at no gain, or let it be
         restsAre("N9000000W00910W00910", 0, 1, 2, 0);
         restsAre("N9000000W00910W00910", 1, 0, 2, 0);
-        // 1 begins at 1 or, behind the other one, never: it asks for it, and the first one asks against it
+        // the second one holds only if it is next, so it asks; then the first one would ask; then asking is idle
         restsAre("N9000000W00930W01110", 0, 1, 0, NONE);
         restsAre("N9000000W00930W01110", 1, 0, 0, NONE);
-        // the first one loses nothing by the second one
+        // the second one holds only if it is next, and the first one loses nothing by that
         restsAre("N9000000W03920W00010", 0, 1, 1, 1);
         restsAre("N9000000W03920W00010", 1, 0, 1, 10);
         restsAre("N9000000W09910W09910", 0, 1, 1, 0);
         OneRing x = parishOf("N9000000W00910W00910W00910");
         x.linger();
         due("23: later than now", x.rests(0, 1, 0), 2);
+        OneRing y = parishOf("N9000000W00930W00930");
+        for (int h = 0; h < 3; h++) {
+            due("23: 4 if next, else 1", y.rests(0, 1, 1), NONE);
+            y.linger();
+        }
+        due("23: 4 if next, else 1, not told from hour 0", y.rests(0, 1, 1), NONE);
         due("23: rests(0, 3, 0)", x.rests(0, 3, 0), UNKNOWN);
         due("23: rests(3, 0, 2)", x.rests(3, 0, 2), UNKNOWN);
         due("23: rests(3, 3, 0)", x.rests(3, 3, 0), UNKNOWN);
@@ -631,15 +641,29 @@ public final class PromiseRuns {
         due("25: seed", x.seed(5), -1);
     }
 
-    /** Seeds that bring a given event next, found by going on from small ones. */
-    private static long seedFor(int event) {
-        for (long v = 0; v < 1000; v++) {
-            long x = v * 6364136223846793005L + 1442695040888963407L;
-            if ((x >>> 33) % 8 == event) {
+    private static long next(long v) {
+        return v * 6364136223846793005L + 1442695040888963407L;
+    }
+
+    /** The least seed from 0 on that brings these events next. */
+    private static long seedFor(int... events) {
+        for (long v = 0; v < 1000000; v++) {
+            long x = v;
+            boolean so = true;
+            for (int i = 0; i < events.length && so; i++) {
+                x = next(x);
+                so = (x >>> 33) % 8 == events[i];
+            }
+            if (so) {
                 return v;
             }
         }
-        throw new IllegalStateException("no seed for " + event);
+        throw new IllegalStateException("no such seed");
+    }
+
+    private static void summersAre(OneRing x, int want, int... events) {
+        x.seed(seedFor(events));
+        due("26: summers of events " + java.util.Arrays.toString(events), x.summers(events.length), want);
     }
 
     private static void summers() {
@@ -648,14 +672,26 @@ public final class PromiseRuns {
             long v = seedFor(event);
             x.seed(v);
             due("26: summers(1), event " + event, x.summers(1), event < 6 ? 1 : 0);
-            due("26: the seed", x.seed(0), v * 6364136223846793005L + 1442695040888963407L);
+            due("26: the seed", x.seed(0), next(v));
         }
         due("26: nothing but the seed has changed", x.count(3) + x.count(4) + x.count(5) + x.count(7), 0);
+        summersAre(x, 1, 6, 0);
+        summersAre(x, 0, 6, 1, 1);
+        summersAre(x, 1, 0, 0);
+        summersAre(x, 2, 0, 7, 0);
+        summersAre(x, 1, 0, 1);
+        summersAre(x, 2, 0, 7, 1);
+        summersAre(x, 0, 7, 6, 7);
         x.wed(0);
-        x.seed(seedFor(0));
-        due("26: wed already", x.summers(1), 0);
-        x.seed(seedFor(1));
-        due("26: does not hold", x.summers(1), 0);
+        summersAre(x, 0, 0);
+        summersAre(x, 0, 1);
+        summersAre(x, 1, 7, 0);
+        x = parishOf("N9011111W50910W50010");
+        summersAre(x, 0, 2);
+        summersAre(x, 0, 7, 1);
+        summersAre(x, 2, 0, 7, 1);
+        x.mend(4);
+        summersAre(x, 2, 0, 7, 1);
         x.seed(9);
         due("26: summers(0)", x.summers(0), OUTSIDE);
         due("26: summers(31)", x.summers(31), OUTSIDE);

@@ -1,0 +1,114 @@
+import java.io.IOException;
+import java.nio.file.Files;
+import java.nio.file.Path;
+import java.util.ArrayList;
+import java.util.Arrays;
+import java.util.List;
+import java.util.regex.Matcher;
+import java.util.regex.Pattern;
+
+/** The rules of ../shared/LANGUAGE.md that can be seen in the text of the class; run from the project's root. */
+public final class LanguageRules {
+    private static final Path SOURCE = Path.of("src/main/java/OneRing.java");
+    private static final List<String> FACE = List.of("write", "wipe", "fault", "parish", "wedding", "road", "way",
+        "wed", "carry", "linger", "mend", "undo", "most", "slack", "mending", "judge", "later", "see", "unsee", "rows",
+        "share", "rests", "falls", "seed", "summers", "keep", "again", "count");
+    private static final List<String> BANNED = List.of("throw", "throws", "try", "catch", "finally", "synchronized",
+        "assert", "import", "package", "var", "System", "Exception", "Object", "protected", "native",
+        "volatile", "transient", "yield", "hashCode", "toString", "equals");
+
+    private static int wrong = 0;
+
+    public static void main(String[] args) throws IOException {
+        String text = Files.readString(SOURCE);
+        String code = text.replaceAll("(?s)/\\*.*?\\*/", "").replaceAll("//[^\n]*", "");
+        signs(text);
+        words(code);
+        face(code);
+        methodLengths(code.split("\n"));
+        System.out.println(wrong == 0 ? "the rules are kept" : wrong + " breaches");
+        if (wrong != 0) {
+            System.exit(1);
+        }
+    }
+
+    private static void breach(String what) {
+        wrong++;
+        System.out.println(what);
+    }
+
+    private static void signs(String text) {
+        for (int i = 0; i < text.length(); i++) {
+            char c = text.charAt(i);
+            if (c > 126 || c < ' ' && c != '\n') {
+                breach("a sign of number " + (int) c + " at " + i);
+            }
+        }
+    }
+
+    private static void words(String code) {
+        for (String word : BANNED) {
+            if (Pattern.compile("\\b" + word + "\\b").matcher(code).find()) {
+                breach("rules 4 to 6: " + word);
+            }
+        }
+        for (String sign : List.of("->", "::", "\"", "@", "...", "<>")) {
+            if (code.contains(sign)) {
+                breach("rules 2 to 4: " + sign);
+            }
+        }
+    }
+
+    private static void face(String code) {
+        List<String> open = new ArrayList<>();
+        Matcher heads = Pattern.compile("(?m)^ +(public |private )?(static )?[\\w\\[\\]]+ (\\w+)\\(([^)]*)\\) \\{").matcher(code);
+        while (heads.find()) {
+            String name = heads.group(3);
+            if (heads.group(1) != null && heads.group(1).equals("public ")) {
+                open.add(name);
+            } else if (FACE.contains(name)) {
+                breach("rule 1: a method of one's own by the name " + name);
+            }
+            if (heads.group(4).split(",").length > 7) {
+                breach("rule 11: parameters of " + name);
+            }
+        }
+        if (!open.equals(FACE)) {
+            breach("rule 1: public methods are " + open);
+        }
+        if (OneRing.class.getDeclaredConstructors().length != 1) {
+            breach("rule 1: constructors");
+        }
+        for (var field : OneRing.class.getDeclaredFields()) {
+            boolean constant = List.of("UNKNOWN", "OUTSIDE", "STATE", "FULL", "NONE").contains(field.getName());
+            if (!java.lang.reflect.Modifier.isPrivate(field.getModifiers()) && !constant) {
+                breach("rule 1: field " + field.getName());
+            }
+        }
+        for (var method : OneRing.class.getDeclaredMethods()) {
+            int is = method.getModifiers();
+            if (!java.lang.reflect.Modifier.isPrivate(is) && !FACE.contains(method.getName())) {
+                breach("rule 1: method " + method.getName());
+            }
+        }
+        int fields = Arrays.stream(OneRing.class.getDeclaredFields())
+            .mapToInt(f -> java.lang.reflect.Modifier.isStatic(f.getModifiers()) ? 0 : 1).sum();
+        if (fields > 20) {
+            breach("rule 11: " + fields + " fields");
+        }
+    }
+
+    private static void methodLengths(String[] lines) {
+        int start = -1;
+        for (int i = 0; i < lines.length; i++) {
+            if (start < 0 && lines[i].matches(" +[\\w\\[\\] ]+\\([^)]*\\) \\{") && !lines[i].matches(" +(if|for|switch|else).*")) {
+                start = i;
+            } else if (start >= 0 && lines[i].matches(" {4,8}\\}")) {
+                if (i - start > 60) {
+                    breach("rule 11: a long method at line " + start);
+                }
+                start = -1;
+            }
+        }
+    }
+}
