@@ -26,6 +26,9 @@ public final class LanguageRules {
         words(code);
         face(code);
         methodLengths(code.split("\n"));
+        library(code);
+        makes(code);
+        classesInside();
         System.out.println(wrong == 0 ? "the rules are kept" : wrong + " breaches");
         if (wrong != 0) {
             System.exit(1);
@@ -108,6 +111,42 @@ public final class LanguageRules {
                     breach("rule 11: a long method at line " + start);
                 }
                 start = -1;
+            }
+        }
+    }
+
+    private static void library(String code) {
+        Matcher uses = Pattern.compile("\\b([A-Z][a-z]\\w*)\\.(\\w+)").matcher(code);
+        while (uses.find()) {
+            if (!List.of("Math.max", "Math.min", "Math.abs", "Integer.bitCount").contains(uses.group())) {
+                breach("rule 4: " + uses.group());
+            }
+        }
+    }
+
+    /** Objects are made with an object, none by a call: in what a field begins with, or in a constructor's loop. */
+    private static void makes(String code) {
+        for (String line : code.split("\n")) {
+            boolean field = line.matches(" +(private )?final [\\w\\[\\]]+ \\w+ = new .*;");
+            boolean row = line.matches(" +\\w+\\[i\\] = new Stand\\(\\);");
+            if (line.matches(".*\\bnew\\b.*") && !field && !row) {
+                breach("rule 12: made by a call: " + line.trim());
+            }
+        }
+    }
+
+    private static void classesInside() {
+        Class<?>[] inside = OneRing.class.getDeclaredClasses();
+        if (inside.length > 11) {
+            breach("rule 11: " + inside.length + " classes inside");
+        }
+        for (Class<?> one : inside) {
+            int is = one.getModifiers();
+            if (!java.lang.reflect.Modifier.isStatic(is) || !java.lang.reflect.Modifier.isPrivate(is)) {
+                breach("rules 1 and 2: " + one.getName());
+            }
+            if (one.getDeclaredFields().length > 20 || one.getDeclaredClasses().length > 0) {
+                breach("rule 11: " + one.getName());
             }
         }
     }
