@@ -48,6 +48,8 @@ public final class BoundaryActs {
         manyActs();
         actsBehindUndone();
         refusedActs();
+        noOtherActs();
+        undoneAlone();
         System.out.println(wrong == 0 ? "all answers are as due" : wrong + " answers are not as due");
         if (wrong != 0) {
             System.exit(1);
@@ -607,5 +609,51 @@ public final class BoundaryActs {
         standsAt(x, 1, 0, 0, 2);
         due("undo()", x.undo(), 1);
         due("road(2)", x.road(2), 1);
+    }
+
+    private static void noOtherActs() {
+        sentence = "ACTS (WED, CARRIED, WAITED, MENDED): no other call is one";
+        OneRing x = parishOf("N9011111W20910W30910");
+        x.linger();
+        x.wipe();
+        x.write('N');
+        x.fault();
+        x.see(1, 2);
+        x.unsee();
+        x.seed(4);
+        x.summers(30);
+        x.keep(0);
+        x.wedding(0, 6);
+        x.most(0);
+        x.slack();
+        x.mending(true);
+        x.judge(2, 12);
+        x.later(0);
+        x.rows(2, 0);
+        x.share(0, true);
+        x.rests(0, 1, 0);
+        x.falls(2, 12, 5, true);
+        standsAt(x, 1, 0, 0, 1);
+        due("undo()", x.undo(), 0);
+        due("count(3)", x.count(3), 0);
+    }
+
+    private static void undoneAlone() {
+        sentence = "The last ACT is undone, and nothing else: THE TEXT, SEEN, THE SEED, SLOTS stay";
+        OneRing x = parishOf("N9011111W20910W30910");
+        x.mend(0);
+        x.wed(0);
+        x.write('W');
+        x.see(1, 2);
+        x.seed(77);
+        x.keep(1);
+        due("undo()", x.undo(), 1);
+        standsAt(x, 0, 0, 0, 1);
+        due("road(0)", x.road(0), 0);
+        due("count(0)", x.count(0), 21);
+        due("count(8)", x.count(8), 1);
+        due("seed(0)", x.seed(0), 77);
+        due("again(1)", x.again(1), 2);
+        standsAt(x, 2, 2, 1, 0);
     }
 }

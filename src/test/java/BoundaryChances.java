@@ -17,6 +17,7 @@ public final class BoundaryChances {
         shareBesideNone();
         shareInLeastTerms();
         shareOfThoseNotWed();
+        shareAsThingsAreNow();
         restsUnknown();
         restsOutside();
         restsOfAWedOne();
@@ -27,6 +28,7 @@ public final class BoundaryChances {
         restsByHoursLater();
         restsNoLessThanNone();
         restsFromNow();
+        restsAsThingsAreNow();
         fallsOfSoMany();
         fallsOfFigures();
         fallsByTenths();
@@ -37,6 +39,7 @@ public final class BoundaryChances {
         fallsOneHour();
         fallsOfManyWays();
         fallsOfARowThatDoesNotHold();
+        fallsAsThingsAreNow();
         seedsToTheirEnds();
         summersOfSoMany();
         summersRefused();
@@ -156,6 +159,23 @@ public final class BoundaryChances {
         shareIs(x, 5, 1, 4);
         x.wed(2);
         shareIs(x, 5, 0, 1);
+    }
+
+    private static void shareAsThingsAreNow() {
+        sentence = "SHARE: MOST, from now on, as things are now";
+        OneRing x = parishOf("N9022222W10110W20910");
+        shareIs(x, 0, 0, 1);
+        shareIs(x, 1, 1, 1);
+        x.mend(0);
+        shareIs(x, 0, 1, 1);
+        x.linger();
+        shareIs(x, 0, 0, 1);
+        x.undo();
+        x.carry(1);
+        shareIs(x, 0, 1, 1);
+        x.carry(5);
+        shareIs(x, 0, 0, 1);
+        shareIs(x, 1, 0, 1);
     }
 
     // ---- rests
@@ -291,6 +311,20 @@ public final class BoundaryChances {
         restsAre(x, 0, 1, 0, NONE);
         x.linger();
         restsAre(x, 0, 1, 1, 0);
+    }
+
+    private static void restsAsThingsAreNow() {
+        sentence = "RESTS: who HOLDS, and when it BEGINS, as things are now";
+        OneRing x = parishOf("N9010000W10110W00910");
+        // the lesser number next: 3 and 1; the other one next: 0 and 4
+        restsAre(x, 0, 1, 0, NONE);
+        x.carry(1);
+        // 4 and 2; 0 and 3
+        restsAre(x, 0, 1, 1, 0);
+        x.undo();
+        x.mend(0);
+        // 4 and 3; 3 and 4
+        restsAre(x, 0, 1, 2, 0);
     }
 
     // ---- falls
@@ -437,6 +471,27 @@ public final class BoundaryChances {
             fallsAre(x, 6, 654321, 5, hour <= 3 ? 1 : 0, 1);
             x.linger();
         }
+    }
+
+    private static void fallsAsThingsAreNow() {
+        sentence = "FALLS: that all of the ROW HOLD, from now on, as things are now";
+        OneRing x = parishOf("N9020000W10210");
+        fallsAre(x, 1, 1, 3, 7, 10);
+        x.linger();
+        fallsAre(x, 1, 1, 3, 0, 1);
+        x.undo();
+        x.mend(0);
+        fallsAre(x, 1, 1, 3, 1, 1);
+        x.linger();
+        fallsAre(x, 1, 1, 3, 7, 10);
+        x.carry(1);
+        fallsAre(x, 1, 1, 3, 1, 1);
+        x.linger();
+        fallsAre(x, 1, 1, 3, 0, 1);
+        x.undo();
+        x.undo();
+        x.mend(0);
+        fallsAre(x, 1, 1, 10, 1, 1);
     }
 
     // ---- seed, summers

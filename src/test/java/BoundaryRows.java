@@ -54,6 +54,7 @@ public final class BoundaryRows {
         rowsBySeenOfSix();
         rowsBySixSeen();
         rowsBySeenTwice();
+        rowsAsThingsAreNow();
         System.out.println(wrong == 0 ? "all answers are as due" : wrong + " answers are not as due");
         if (wrong != 0) {
             System.exit(1);
@@ -623,5 +624,38 @@ public final class BoundaryRows {
         x.see(2, 4);
         rowsAre(x, 2, 0, NONE, NONE);
         rowsAre(x, 1, 6, 0, 0);
+    }
+
+    // ---- all of them, as things are now
+
+    /** Of two WEDDINGS: MOST, SLACK, MEND's how many, the last HOURS, how many ROWS of 2. */
+    private static void asNow(OneRing x, int most, int first, int end, int slack, int mended, int later0, int later1) {
+        mostIs(x, most, first, end);
+        due("slack()", x.slack(), slack);
+        due("mending(true)", x.mending(true), mended);
+        due("later(0)", x.later(0), later0);
+        due("later(1)", x.later(1), later1);
+        due("rows(2, 0)", x.rows(2, 0), most == 2 ? 1 : 0);
+        due("judge(1, 1)", x.judge(1, 1), most == 2 ? NONE : 0);
+        due("judge(2, 12)", x.judge(2, 12), most == 2 ? NONE : 0);
+        due("judge(2, 21)", x.judge(2, 21), 1);
+    }
+
+    private static void rowsAsThingsAreNow() {
+        sentence = "A ROW HOLDS, if each does behind those ahead of it, from now on, as things are now";
+        OneRing x = parishOf("N9022222W10110W20910");
+        asNow(x, 1, 2, 5, 4, 2, NONE, 4);
+        x.mend(0);
+        asNow(x, 2, 12, 5, 0, 2, 0, 5);
+        x.linger();
+        asNow(x, 1, 2, 5, 4, 2, 0, 5);
+        x.undo();
+        x.carry(1);
+        asNow(x, 2, 12, 5, 0, 2, 1, 6);
+        x.carry(2);
+        asNow(x, 1, 2, 4, 5, 1, NONE, 8);
+        x.wed(1);
+        due("judge(1, 2)", x.judge(1, 2), 0);
+        mostIs(x, 0, 0, 4);
     }
 }

@@ -4,10 +4,16 @@ import java.nio.file.Path;
 import java.util.ArrayList;
 import java.util.Arrays;
 import java.util.List;
+import java.util.Map;
+import java.util.TreeMap;
+import java.util.TreeSet;
 import java.util.regex.Matcher;
 import java.util.regex.Pattern;
 
-/** The rules of ../shared/LANGUAGE.md that can be seen in the text of the class; run from the project's root. */
+/**
+ * The rules of ../shared/LANGUAGE.md that can be seen in the text of the class, told more strictly where it needs less
+ * than they leave; run from the project's root.
+ */
 public final class LanguageRules {
     private static final Path SOURCE = Path.of("src/main/java/OneRing.java");
     private static final List<String> FACE = List.of("write", "wipe", "fault", "parish", "wedding", "road", "way",
@@ -29,6 +35,10 @@ public final class LanguageRules {
         library(code);
         makes(code);
         classesInside();
+        staticFields(code);
+        loops(code);
+        callsInsideCalls(code);
+        indexesAndDivisors(code);
         System.out.println(wrong == 0 ? "the rules are kept" : wrong + " breaches");
         if (wrong != 0) {
             System.exit(1);
@@ -149,5 +159,142 @@ public final class LanguageRules {
                 breach("rule 11: " + one.getName());
             }
         }
+    }
+
+    private static void staticFields(String code) {
+        List<Class<?>> all = new ArrayList<>(List.of(OneRing.class.getDeclaredClasses()));
+        all.add(OneRing.class);
+        for (Class<?> one : all) {
+            for (var field : one.getDeclaredFields()) {
+                int is = field.getModifiers();
+                if (!java.lang.reflect.Modifier.isStatic(is)) {
+                    continue;
+                }
+                boolean plain = List.of("int", "long", "boolean", "char", "int[]", "long[]", "char[]", "byte[]")
+                    .contains(field.getType().getSimpleName());
+                boolean changed = Pattern.compile("\\b" + field.getName() + "(\\[[^\\]]*\\])? *(=[^=]|\\+\\+|--|[-+*/|&^]=)")
+                    .matcher(code.replaceAll("(?m)^.*static final.*$", "")).find();
+                if (!java.lang.reflect.Modifier.isFinal(is) || !plain || changed) {
+                    breach("rule 5: " + field.getName());
+                }
+            }
+        }
+    }
+
+    /** Each loop is a for whose head has a bound. */
+    private static void loops(String code) {
+        if (Pattern.compile("\\b(while|do)\\b").matcher(code).find()) {
+            breach("rule 9: a loop that is no for");
+        }
+        Matcher heads = Pattern.compile("\\bfor \\(([^{]*)\\) \\{").matcher(code);
+        while (heads.find()) {
+            if (!heads.group(1).matches("int (\\w+) = [^;]+; \\1 (<|>=) [^;]+; \\1(\\+\\+|--)")) {
+                breach("rule 9: a for without a plain bound: " + heads.group(1));
+            }
+        }
+    }
+
+    /** By the names of methods their texts; those of one name are taken together. */
+    private static Map<String, List<String>> bodies(String code) {
+        String head = "(?m)^( +)(?:public |private )?(?:static )?(?:[\\w\\[\\]]+ )?(\\w+)\\([^)]*\\) \\{$";
+        Matcher heads = Pattern.compile(head).matcher(code);
+        Map<String, List<String>> bodies = new TreeMap<>();
+        while (heads.find()) {
+            if (!List.of("if", "for", "switch").contains(heads.group(2))) {
+                String body = code.substring(heads.end(), code.indexOf("\n" + heads.group(1) + "}\n", heads.end()));
+                bodies.computeIfAbsent(heads.group(2), name -> new ArrayList<>()).add(body);
+            }
+        }
+        return bodies;
+    }
+
+    /** By the names of methods: what each one calls. */
+    private static Map<String, TreeSet<String>> callGraph(String code) {
+        Map<String, List<String>> bodies = bodies(code);
+        Map<String, TreeSet<String>> graph = new TreeMap<>();
+        for (String name : bodies.keySet()) {
+            TreeSet<String> called = new TreeSet<>();
+            Matcher calls = Pattern.compile("\\b(\\w+)\\(").matcher(String.join("\n", bodies.get(name)));
+            while (calls.find()) {
+                if (bodies.containsKey(calls.group(1))) {
+                    called.add(calls.group(1));
+                }
+            }
+            graph.put(name, called);
+        }
+        return graph;
+    }
+
+    private static void callsInsideCalls(String code) {
+        Map<String, TreeSet<String>> graph = callGraph(code);
+        if (!graph.keySet().containsAll(FACE) || !graph.containsKey("goOn")) {
+            breach("the methods are not found in the text");
+        }
+        for (String name : graph.keySet()) {
+            boolean itself = graph.get(name).remove(name);
+            if (itself && !name.equals("goOn")) {
+                breach("rule 8: calls itself: " + name);
+            }
+        }
+        if (!code.contains("private static void goOn(Search search, Parish told, int depth,")
+            || !code.contains("if (depth >= search.limit || depth >= WEDDINGS) {\n                return;")) {
+            breach("rule 8: the recursion has no guard on its depth");
+        }
+        for (String name : FACE) {
+            deepest(graph, name, new ArrayList<>());
+        }
+    }
+
+    private static void deepest(Map<String, TreeSet<String>> graph, String name, List<String> open) {
+        if (open.contains(name)) {
+            breach("rule 8: call one another: " + open + ", " + name);
+            return;
+        }
+        open.add(name);
+        if (open.size() > 8) {
+            breach("rule 11: deeper than eight: " + open);
+        } else {
+            for (String called : graph.get(name)) {
+                deepest(graph, called, open);
+            }
+        }
+        open.remove(open.size() - 1);
+    }
+
+    private static void indexesAndDivisors(String code) {
+        int looked = 0;
+        for (var bodies : bodies(code).entrySet()) {
+            for (String body : bodies.getValue()) {
+                Matcher uses = Pattern.compile("\\b(\\w+)\\[([^\\]]+)\\]").matcher(body);
+                while (uses.find()) {
+                    looked++;
+                    if (!isLookedAt(body, uses.group(1), uses.group(2))) {
+                        breach("rule 7: an index that is not looked at in " + bodies.getKey() + ": " + uses.group());
+                    }
+                }
+                Matcher divisions = Pattern.compile("[/%] *(\\w+|\\([^)]*\\))").matcher(body);
+                while (divisions.find()) {
+                    looked++;
+                    String divisor = divisions.group(1);
+                    boolean constant = divisor.matches("[1-9]\\d*|[A-Z]+|\\([A-Z]+ \\+ 1\\)");
+                    if (!constant && !body.contains(divisor + " > 0") && !body.contains(divisor + " < 1")) {
+                        breach("rule 7: a divisor that is not looked at in " + bodies.getKey() + ": " + divisor);
+                    }
+                }
+            }
+        }
+        if (looked < 30) {
+            breach("only " + looked + " indexes and divisors are found in the text");
+        }
+    }
+
+    private static boolean isLookedAt(String body, String array, String index) {
+        if (body.contains("if (!isSlot(" + index + "))")) {
+            return true;
+        }
+        boolean fromNone = body.contains("int " + index + " = 0;");
+        boolean below = fromNone || body.contains(index + " < 0") || body.contains(index + " >= 0");
+        String length = array + ".length";
+        return below && (body.contains(index + " < " + length) || body.contains(index + " >= " + length));
     }
 }

@@ -8,17 +8,17 @@ import java.util.Random;
 import java.util.regex.Matcher;
 import java.util.regex.Pattern;
 
-/** Long runs of random calls, each answer set against a second, slow and plain reading of the document. */
+/** Long runs of random calls, on two objects in turns, each answer set against a second, slow and plain reading. */
 public final class PlainModelRuns {
     private static final int UNKNOWN = -1, OUTSIDE = -2, STATE = -3, FULL = -4, NONE = -9;
-    private static final int RUNS = 600, CALLS = 400;
+    private static final int PAIRS = 300, CALLS = 400;
 
     private static int wrong = 0;
 
     public static void main(String[] args) {
         Random dice = new Random(20261119);
-        for (int run = 0; run < RUNS && wrong < 20; run++) {
-            oneRun(run, new Random(dice.nextLong()));
+        for (int pair = 0; pair < PAIRS && wrong < 20; pair++) {
+            inTurns(new Run(2 * pair), new Run(2 * pair + 1), new Random(dice.nextLong()));
         }
         System.out.println(wrong == 0 ? "all answers are as due" : wrong + " answers are not as due");
         if (wrong != 0) {
@@ -26,35 +26,46 @@ public final class PlainModelRuns {
         }
     }
 
-    private static void oneRun(int run, Random dice) {
-        OneRing x = new OneRing();
-        Model m = new Model();
-        List<String> told = new ArrayList<>();
+    /** An object, what it should be, and the calls that both were told. */
+    private static final class Run {
+        final int number;
+        final OneRing x = new OneRing();
+        final Model m = new Model();
+        final List<String> told = new ArrayList<>();
         int calls = 0;
-        while (calls < CALLS) {
-            if (dice.nextInt(90) == 0 || calls == 0) {
-                String letters = letters(dice);
-                told.add("text " + letters);
-                calls += letters.length() + 3;
-                if (differs(run, told, "wipe()", x.wipe(), m.wipe())) {
-                    return;
-                }
-                for (char letter : letters.toCharArray()) {
-                    if (differs(run, told, "write(" + letter + ")", x.write(letter), m.write(letter))) {
-                        return;
-                    }
-                }
-                if (differs(run, told, "fault()", x.fault(), m.fault())
-                    || differs(run, told, "parish()", x.parish(), m.parish())) {
-                    return;
-                }
-            } else {
-                calls++;
-                if (oneCall(run, told, dice, x, m)) {
-                    return;
-                }
+
+        Run(int number) {
+            this.number = number;
+        }
+    }
+
+    private static void inTurns(Run one, Run other, Random dice) {
+        while (one.calls < CALLS && other.calls < CALLS) {
+            if (step(dice.nextBoolean() ? one : other, dice)) {
+                return;
             }
         }
+    }
+
+    /** True, if the answers differ. */
+    private static boolean step(Run run, Random dice) {
+        if (dice.nextInt(90) == 0 || run.calls == 0) {
+            return toldAnew(run, letters(dice));
+        }
+        run.calls++;
+        return oneCall(run.number, run.told, dice, run.x, run.m);
+    }
+
+    private static boolean toldAnew(Run run, String letters) {
+        List<String> told = run.told;
+        told.add("text " + letters);
+        run.calls += letters.length() + 3;
+        boolean differ = differs(run.number, told, "wipe()", run.x.wipe(), run.m.wipe());
+        for (char letter : letters.toCharArray()) {
+            differ = differ || differs(run.number, told, "write(" + letter + ")", run.x.write(letter), run.m.write(letter));
+        }
+        return differ || differs(run.number, told, "fault()", run.x.fault(), run.m.fault())
+            || differs(run.number, told, "parish()", run.x.parish(), run.m.parish());
     }
 
     private static boolean differs(int run, List<String> told, String call, long got, long want) {
@@ -83,7 +94,7 @@ public final class PlainModelRuns {
             s.append(1 + dice.nextInt(longest)).append(dice.nextInt(4));
         }
         if (dice.nextInt(8) == 0) {
-            s.setCharAt(dice.nextInt(s.length()), (char) ("NW/:0123456789".charAt(dice.nextInt(14))));
+            s.setCharAt(dice.nextInt(s.length()), "NW/:0123456789".charAt(dice.nextInt(14)));
         } else if (dice.nextInt(20) == 0) {
             s.setLength(dice.nextInt(s.length()));
         } else if (dice.nextInt(20) == 0) {
